@@ -340,6 +340,22 @@ public final class PromiseTests {
         due("8: failed containers aren't counted", x.run(1), 0);
     }
 
+    private static void containerClosedSinceTheLastRun() {
+        TestTreeRunner x = new TestTreeRunner();
+        int c = x.container(0);
+        int d = x.container(c);
+        int t = x.test(d);
+        x.run(1);
+        due("8: open", x.result(t), PASSED);
+        x.hook(0, BEFORE_ALL, ABORTS);
+        x.run(1);
+        due("8: closed, root", x.result(0), ABORTED);
+        due("8: closed, container", x.result(c), NOT_RUN);
+        due("8: closed, container deeper", x.result(d), NOT_RUN);
+        due("8: closed, test", x.result(t), NOT_RUN);
+        due("8: closed, steps", x.steps(), 1);
+    }
+
     private static void beforeAndAfterAll() {
         int[] outcomes = {ABSENT, PASSES, FAILS, ABORTS};
         for (int before : outcomes) {
@@ -641,6 +657,7 @@ public final class PromiseTests {
         promise6Tags();
         promise7Disable();
         promise8Run();
+        containerClosedSinceTheLastRun();
         beforeAndAfterAll();
         beforeEachStopsTheWayDown();
         absentBeforeEachStillHasAfterEach();
