@@ -240,10 +240,34 @@ public final class BoundaryTests {
 
     private static void fiveHundredAndTwelveAsks() {
         TestTreeRunner x = new TestTreeRunner();
-        for (int call = 1; call < CALLS; call++) {
-            due("call " + call + ", result(1)", x.result(1), BAD_NODE);
+        x.test(0);
+        x.body(1, 2, FAILS | ABORTS << 2);
+        x.run(1);
+        for (int call = 4; call <= CALLS; call++) {
+            switch (call % 5) {
+                case 0 -> due("call " + call + ", result(1)", x.result(1), ABORTED);
+                case 1 -> due("call " + call + ", times(1, 0)", x.times(1, 0), 2);
+                case 2 -> due("call " + call + ", count(ABORTED)", x.count(ABORTED), 1);
+                case 3 -> due("call " + call + ", steps()", x.steps(), 2);
+                default -> due("call " + call + ", attempts(1)", x.attempts(1), 2);
+            }
         }
-        due("call 512, test(0)", x.test(0), 1);
+    }
+
+    private static void fiveHundredAndTwelveOfOneKind() {
+        List<ToIntFunction<TestTreeRunner>> asks = List.of(
+                x -> x.result(0), x -> x.times(0, 3), x -> x.count(PASSED), x -> x.steps(), x -> x.attempts(0));
+        for (ToIntFunction<TestTreeRunner> ask : asks) {
+            TestTreeRunner x = new TestTreeRunner();
+            for (int call = 1; call <= CALLS; call++) {
+                due("call " + call + " of the same ask", ask.applyAsInt(x), 0);
+            }
+        }
+        TestTreeRunner late = new TestTreeRunner();
+        for (int call = 1; call < CALLS; call++) {
+            due("call " + call + ", test(1)", late.test(1), BAD_NODE);
+        }
+        due("call 512, test(0)", late.test(0), 1);
     }
 
     private static void fiveHundredAndTwelveAdded() {
@@ -276,6 +300,7 @@ public final class BoundaryTests {
     private static void fiveHundredAndTwelveCalls() {
         fiveHundredAndTwelveRuns();
         fiveHundredAndTwelveAsks();
+        fiveHundredAndTwelveOfOneKind();
         fiveHundredAndTwelveAdded();
         fiveHundredAndTwelveSet();
     }
@@ -1156,12 +1181,19 @@ public final class BoundaryTests {
     }
 
     private static void countOfAnyOtherNumber() {
-        TestTreeRunner x = fullTreeRun();
-        due("count(NOT_RUN), though tests are", x.count(NOT_RUN), 0);
+        TestTreeRunner x = new TestTreeRunner();
+        for (int node = 1; node <= 10; node++) {
+            x.test(0);
+            x.body(node, 1, node == 1 ? PASSES : node < 4 ? FAILS : ABORTS);
+            x.tags(node, node < 7 ? 1 : 2);
+        }
+        due("count(NOT_RUN) before a run", x.count(NOT_RUN), 0);
+        x.run(1);
+        dueCounts("one, two and three", x, 1, 2, 3);
+        due("count(NOT_RUN), though four are", x.count(NOT_RUN), 0);
         for (int number : NOT_0_TO_3) {
             due("count(" + number + ")", x.count(number), 0);
         }
-        dueCounts("a full tree", x, 0, 1, 9);
         due("count(NOT_RUN) without tests", new TestTreeRunner().count(NOT_RUN), 0);
     }
 

@@ -1,20 +1,13 @@
-import java.io.IOException;
 import java.lang.reflect.Constructor;
 import java.lang.reflect.Field;
 import java.lang.reflect.Method;
 import java.lang.reflect.Modifier;
-import java.nio.file.Files;
-import java.nio.file.Path;
 import java.util.Arrays;
 import java.util.Set;
 import java.util.TreeSet;
-import java.util.regex.Matcher;
-import java.util.regex.Pattern;
 
-/** The public face of the class, and those rules of LANGUAGE.md that can be seen from outside or by a word. */
+/** The public face of the class, and those rules of LANGUAGE.md that can be seen from outside. */
 public final class FaceTests {
-    private static final Path SOURCE = Path.of("src/main/java/TestTreeRunner.java");
-
     private static int wrong = 0;
 
     private static void due(String what, Object got, Object want) {
@@ -94,26 +87,11 @@ public final class FaceTests {
         due("at most forty fields", held <= 40, true);
     }
 
-    private static void theWords() throws IOException {
-        String source = Files.readString(SOURCE);
-        String code = source.replaceAll("(?s)/\\*.*?\\*/", " ").replaceAll("//[^\n]*", " ");
-        Matcher word = Pattern.compile("\\b(package|import|throw|throws|try|catch|finally|synchronized|assert"
-                + "|instanceof|null|float|double|String|Math|Integer|Long|System|Arrays|Object|enum|record"
-                + "|interface|extends|implements|protected|getClass|hashCode|equals|toString)\\b|->|::|\"").matcher(code);
-        while (word.find()) {
-            due("a word that the rules leave out", word.group(), "");
-        }
-        Matcher made = Pattern.compile("\\bnew\\b").matcher(code);
-        Matcher madeInField = Pattern.compile("private final \\w+\\[\\] \\w+ = new \\w+\\[[A-Z_]+\\];").matcher(code);
-        due("arrays made, and in a field's initialiser", made.results().count(), madeInField.results().count());
-    }
-
-    public static void main(String[] args) throws IOException {
+    public static void main(String[] args) {
         theClass();
         theMethods();
         theConstructors();
         theFields();
-        theWords();
         System.out.println(wrong == 0 ? "the face is as due" : wrong + " things are not as due");
         if (wrong != 0) {
             System.exit(1);
