@@ -5,6 +5,7 @@ import java.util.List;
  * Long runs of calls, compared answer by answer with a second program that
  * follows the document's words step by step: a tree of objects that is run
  * from the root downwards by recursion, with a journal of what was carried out.
+ * Then every choice of outcomes in a small tree, compared in the same way.
  */
 public final class ModelTests {
     private static final int OBJECTS = 4000;
@@ -402,9 +403,45 @@ public final class ModelTests {
         askAll();
     }
 
+    private void setHooks(int node, int outcomes) {
+        for (int which = 0; which < 4; which++) {
+            int outcome = (outcomes >> (2 * which)) & 3;
+            same("hook(" + node + ", " + which + ", " + outcome + ")",
+                    runner.hook(node, which, outcome), model.hook(node, which, outcome));
+        }
+    }
+
+    /** All that is told of the nodes 0 to 2. */
+    private void askSmall() {
+        same("steps()", runner.steps(), model.steps());
+        for (int node = 0; node < 3; node++) {
+            same("result(" + node + ")", runner.result(node), model.result(node));
+            same("attempts(" + node + ")", runner.attempts(node), model.attempts(node));
+            for (int which = 0; which < 4; which++) {
+                same("times(" + node + ", " + which + ")", runner.times(node, which), model.times(node, which));
+            }
+        }
+    }
+
+    /** A test below a container below the root, with two attempts of each pair of outcomes. */
+    private void compareSmall(int rootHooks, int innerHooks) {
+        same("container(0)", runner.container(0), model.add(0, false));
+        same("test(1)", runner.test(1), model.add(1, true));
+        setHooks(0, rootHooks);
+        setHooks(1, innerHooks);
+        for (int outcomes = 0; outcomes < 16; outcomes++) {
+            same("body(2, 2, " + outcomes + ")", runner.body(2, 2, outcomes), model.body(2, 2, outcomes));
+            same("run(1)", runner.run(1), model.run(1));
+            askSmall();
+        }
+    }
+
     public static void main(String[] args) {
         for (int object = 0; object < OBJECTS; object++) {
             new ModelTests(object).compare();
+        }
+        for (int hooks = 0; hooks < 256 * 256; hooks++) {
+            new ModelTests(OBJECTS + hooks).compareSmall(hooks & 255, hooks >> 8);
         }
         System.out.println(compared + " answers compared, " + wrong + " not as due");
         if (wrong != 0) {
